@@ -36,7 +36,7 @@ public final class OverBacks {
     private static final int MOST_KEPT = 20;
     private static final int ROW_SIZE = 3;
     private static final int FIRST_OF_LINE = 10;
-    private static final int UNCUT = Integer.MAX_VALUE;
+    private static final int UNCUT = 2147483647;
 
     private final State now;
     private final State image;
@@ -69,7 +69,7 @@ public final class OverBacks {
         boolean whole = read.readAll();
         now.tape.clear();
         if (!whole) return FAULTS - read.place;
-        now.line.cross(read);
+        now.line.lieOn(read);
         now.fields++;
         return now.fields - 1;
     }
@@ -555,7 +555,7 @@ public final class OverBacks {
             flat = other.flat;
         }
 
-        void cross(Field newest) {
+        void lieOn(Field newest) {
             field = newest;
             gap = newest.gap;
             far = newest.far;

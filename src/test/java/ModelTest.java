@@ -1,3 +1,5 @@
+import java.lang.reflect.Method;
+import java.lang.reflect.Modifier;
 import java.util.Random;
 
 /** Many runs of calls drawn by lot (always the same ones), each answer beside the Model's. */
@@ -112,79 +114,22 @@ public final class ModelTest {
     private void call(String call, int a, int b, int c) {
         calls.append(call).append('(').append(a).append(", ").append(b).append(", ").append(c).append(") ");
         int already = Due.failures();
-        Due.is(name + ": " + call + "(" + a + ", " + b + ", " + c + ")", ofClass(call, a, b, c), ofModel(call, a, b, c));
+        Due.is(name + ": " + call + "(" + a + ", " + b + ", " + c + ")", answer(x, call, a, b, c), answer(y, call, a, b, c));
         if (Due.failures() != already) System.out.println("  after " + calls + "\n  with " + y);
     }
 
-    private long ofClass(String call, int a, int b, int c) {
-        switch (call) {
-            case "feed": return x.feed(a);
-            case "field": return x.field();
-            case "person": return x.person(a, b, c);
-            case "of": return x.of(a, b);
-            case "breath": return x.breath(a, b);
-            case "swap": return x.swap(a, b);
-            case "row": return x.row(a, b, c);
-            case "told": return x.told(a);
-            case "leap": return x.leap(a, b, c);
-            case "turn": return x.turn();
-            case "on": return x.on(a, b);
-            case "across": return x.across(a);
-            case "gap": return x.gap(a);
-            case "change": return x.change();
-            case "order": return x.order(a);
-            case "without": return x.without(a);
-            case "breathless": return x.breathless(a);
-            case "two": return x.two();
-            case "took": return x.took(a);
-            case "gave": return x.gave();
-            case "odds": return x.odds(a);
-            case "mean": return x.mean(a);
-            case "book": return x.book(a, b);
-            case "looked": return x.looked();
-            case "act": return x.act(a, b, c);
-            case "trace": return x.trace(a);
-            case "as": return x.as(a, b);
-            case "image": return x.image();
-            case "undo": return x.undo();
-            case "count": return x.count(a);
-            default: throw new IllegalArgumentException(call);
+    /** With as many of the three as the call takes. */
+    private static long answer(Object of, String call, int... three) {
+        for (Method m : of.getClass().getDeclaredMethods()) {
+            if (!m.getName().equals(call) || Modifier.isPrivate(m.getModifiers()) || Modifier.isStatic(m.getModifiers())) continue;
+            Object[] given = new Object[m.getParameterCount()];
+            for (int i = 0; i < given.length; i++) given[i] = three[i];
+            try {
+                return ((Number) m.invoke(of, given)).longValue();
+            } catch (ReflectiveOperationException e) {
+                throw new IllegalStateException(of.getClass() + " in " + call, e.getCause());
+            }
         }
-    }
-
-    private long ofModel(String call, int a, int b, int c) {
-        switch (call) {
-            case "feed": return y.feed(a);
-            case "field": return y.field();
-            case "person": return y.person(a, b, c);
-            case "of": return y.of(a, b);
-            case "breath": return y.breath(a, b);
-            case "swap": return y.swap(a, b);
-            case "row": return y.row(a, b, c);
-            case "told": return y.told(a);
-            case "leap": return y.leap(a, b, c);
-            case "turn": return y.turn();
-            case "on": return y.on(a, b);
-            case "across": return y.across(a);
-            case "gap": return y.gap(a);
-            case "change": return y.change();
-            case "order": return y.order(a);
-            case "without": return y.without(a);
-            case "breathless": return y.breathless(a);
-            case "two": return y.two();
-            case "took": return y.took(a);
-            case "gave": return y.gave();
-            case "odds": return y.odds(a);
-            case "mean": return y.mean(a);
-            case "book": return y.book(a, b);
-            case "looked": return y.looked();
-            case "act": return y.act(a, b, c);
-            case "trace": return y.trace(a);
-            case "as": return y.as(a, b);
-            case "image": return y.image();
-            case "undo": return y.undo();
-            case "count": return y.count(a);
-            default: throw new IllegalArgumentException(call);
-        }
+        throw new IllegalArgumentException(call);
     }
 }

@@ -475,6 +475,7 @@ public final class PromisesTest {
         Due.is("across 4", with(three(), "yards 4").across(0), 2);
         Due.is("across 5", with(three(), "yards 5").across(0), 3);
         Due.is("across 5 time", with(three(), "yards 5").across(1), 60);
+        Due.is("across 1", with(three(), "yards 1").across(0), 1);
         Due.is("across 99 by 1", with(three(), "yards 99;gap 1").across(0), 99);
         Due.is("across by gap 0", with(three(), "gap 0").across(0), -5);
         Due.is("across by gap 0, time", with(three(), "gap 0").across(1), -5);
@@ -556,12 +557,29 @@ public final class PromisesTest {
         Due.is("order: nobody", new OverBacks().order(-1), -5);
         Due.is("order: nobody, so now", with(new OverBacks(), "yards 0").order(-1), 0);
         Due.is("order: nobody, so now, k", with(new OverBacks(), "yards 0").order(0), -5);
+        orderOfTold();
         OverBacks five = leapers(4);
         five.person(4, 0, 0);
         with(five, "yards 4;slow 9 p=0;slow 9 p=1;slow 5 p=2");
         // First 4 leaps for 20 (5 each), then 3 for 28; all others are slower.
         int[] best = {48, 0, 1, 2, 3, 4};
         for (int k = -1; k < 5; k++) Due.is("order of five " + k, five.order(k), best[k + 1]);
+    }
+
+    /** Each of 0, 1, 2 stands high in one turn, and is spared its own height if it leaps in just that one. */
+    private static void orderOfTold() {
+        OverBacks x = new OverBacks();
+        for (int p = 0; p < 3; p++) {
+            x.person(6, 9, 0);
+            x.row(p, p, 9);
+        }
+        with(x, "yards 6");
+        int[] three = {42, 2, 1, 0, -5, -5};
+        for (int k = -1; k < 5; k++) Due.is("order of three told " + k, x.order(k), three[k + 1]);
+        x.person(0, 0, 0);
+        x.person(0, 0, 0);
+        int[] five = {84, 3, 4, 2, 1, 0};
+        for (int k = -1; k < 5; k++) Due.is("order of five, three told " + k, x.order(k), five[k + 1]);
     }
 
     private static void without() {
@@ -659,6 +677,7 @@ public final class PromisesTest {
         took(x, 0, 17, 22);
         took(x, 1, 13, 18, 21);
         took(x, 0, 13, 18, 20);
+        Due.is("backs are as they were", x.on(3, 0), 60);
         Due.is("gave: nobody", new OverBacks().gave(), 0);
         x.turn();
         took(x, 5, 18);
@@ -706,6 +725,7 @@ public final class PromisesTest {
         Due.is("mean -1", x.mean(-1), Long.MIN_VALUE);
         Due.is("mean: nobody", new OverBacks().mean(0), Long.MIN_VALUE);
         Due.is("mean: alone", leapers(1).mean(1), Long.MIN_VALUE);
+        Due.is("mean of two", leapers(2).mean(0), 7);
     }
 
     private static void book() {
@@ -732,6 +752,8 @@ public final class PromisesTest {
         Due.is("book none then", x.book(-1, Integer.MIN_VALUE), 0);
         Due.is("no rows", x.count(3), 0);
         Due.is("looked: none", x.looked(), -5);
+        x.book(1, 39);
+        Due.is("looked: rows that came behind none", x.looked(), -5);
         OverBacks nobody = new OverBacks();
         nobody.book(60, 0);
         Due.is("looked: nobody", nobody.looked(), -5);
@@ -809,9 +831,9 @@ public final class PromisesTest {
         with(x, "gap 4;slow 9 p=1");
         x.feed('g');
         x.took(5);
-        x.book(1, 7);
         x.breath(0, 5);
         x.turn();
+        x.book(1, x.on(1, 0));
         int time = x.told(2);
         Due.is("image", x.image(), 4);
         x.turn();
@@ -824,6 +846,7 @@ public final class PromisesTest {
         x.feed('p');
         x.took(6);
         x.book(-1, 0);
+        x.book(1, 1);
         x.book(2, 2);
         x.book(2, 2);
         x.act(0, 2, 1);
@@ -841,9 +864,16 @@ public final class PromisesTest {
         Due.is("book as the image", x.book(0, 0), 2);
         Due.is("the trace stays", x.trace(0), 3);
         Due.is("undo again", x.undo(), 4);
+        Due.is("book as the image, looked", x.looked(), -5);
+        Due.is("tape as the image", Due.field(x, "ap 9"), 1);
+        Due.is("undo from there", x.undo(), 4);
         Due.is("row as the image again", x.row(3, 1, 0), 4);
         Due.is("who comes behind undo", x.person(6, 9, 9), 4);
-        Due.is("row of who comes behind undo", x.row(4, 0, 0), 0);
+        x.row(4, 0, 5);
+        x.row(4, 2, 6);
+        x.undo();
+        x.person(6, 9, 9);
+        for (int k = 0; k < 3; k++) Due.is("row of who comes behind undo " + k, x.row(4, k, 0), 0);
         Due.is("another image", x.image(), 5);
         Due.is("undo to another image", x.undo(), 5);
         OverBacks none = new OverBacks();
