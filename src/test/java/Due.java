@@ -1,3 +1,5 @@
+import java.util.function.IntUnaryOperator;
+
 /** Counts the answers that are as due, and prints those that are not. */
 final class Due {
     private static int passed = 0;
@@ -17,6 +19,11 @@ final class Due {
 
     static void holds(String what, boolean so) {
         is(what, so ? 1 : 0, 1);
+    }
+
+    /** The same is due for each given number. */
+    static void all(String what, IntUnaryOperator call, int due, int... given) {
+        for (int n : given) is(what + " " + n, call.applyAsInt(n), due);
     }
 
     static int failures() {

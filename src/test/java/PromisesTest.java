@@ -39,32 +39,6 @@ public final class PromisesTest {
         Due.end("PromisesTest");
     }
 
-    /** Takes 17, 22, 21 by turns: backs 4, 3, 4, and gap 2. */
-    private static OverBacks three() {
-        OverBacks x = new OverBacks();
-        x.person(0, 1, 4);
-        x.person(1, 2, 7);
-        x.person(4, 3, 9);
-        return x;
-    }
-
-    private static OverBacks allKinds() {
-        OverBacks x = new OverBacks();
-        for (int kind = 0; kind < 7; kind++) x.person(kind, kind + 1, 9 - kind);
-        return x;
-    }
-
-    private static OverBacks leapers(int n) {
-        OverBacks x = new OverBacks();
-        for (int p = 0; p < n; p++) x.person(0, 0, 0);
-        return x;
-    }
-
-    private static OverBacks with(OverBacks x, String text) {
-        Due.holds("a FIELD: " + text, Due.field(x, text) >= 0);
-        return x;
-    }
-
     private static void newObject() {
         OverBacks x = new OverBacks();
         int[] told = {0, 0, 0, 2, 60};
@@ -208,7 +182,7 @@ public final class PromisesTest {
         x.person(0, 0, 4);
         x.person(2, 0, 9);
         x.person(3, 9, 1);
-        with(x, "slow 7 " + e + ";risk 30 " + e);
+        Lines.with(x, "slow 7 " + e + ";risk 30 " + e);
         x.breath(1, 3);
         int[] back = {4, 11, 1};
         Due.is("slow " + e + " at " + one + " " + other, x.leap(one, other, 0), 5 + 2 + back[other] + (one == 2 && other == 1 ? 3 : 0) + (so ? 7 : 0));
@@ -269,7 +243,7 @@ public final class PromisesTest {
         Due.is("full", x.person(0, 0, 0), FULL);
         Due.is("full, but no such kind", x.person(7, 0, 0), NONE);
         Due.is("full, but bad", x.person(0, 10, 0), BAD);
-        OverBacks y = three();
+        OverBacks y = Lines.three();
         y.turn();
         y.person(0, 0, 0);
         int[] line = {2, 0, 1, 3};
@@ -277,7 +251,7 @@ public final class PromisesTest {
     }
 
     private static void of() {
-        OverBacks x = allKinds();
+        OverBacks x = Lines.allKinds();
         int[] back = {9, 4, 9, 6, 2, 6, 0};
         for (int p = 0; p < 7; p++) {
             int[] due = {p, p + 1, 9 - p, 9, back[p], p};
@@ -287,7 +261,7 @@ public final class PromisesTest {
         }
         Due.is("of -1", x.of(-1, 0), NONE);
         Due.is("of 7", x.of(7, 0), NONE);
-        Due.is("of nobody", three().of(3, 0), NONE);
+        Due.is("of nobody", Lines.three().of(3, 0), NONE);
         OverBacks y = new OverBacks();
         y.person(1, 0, 0);
         y.person(5, 0, 0);
@@ -298,7 +272,7 @@ public final class PromisesTest {
     }
 
     private static void breath() {
-        OverBacks x = three();
+        OverBacks x = Lines.three();
         Due.is("breath", x.breath(1, 0), 9);
         Due.is("breath is", x.of(1, 3), 0);
         Due.is("breath again", x.breath(1, 9), 0);
@@ -311,7 +285,7 @@ public final class PromisesTest {
     }
 
     private static void swap() {
-        OverBacks x = three();
+        OverBacks x = Lines.three();
         Due.is("swap", x.swap(0, 2), 2);
         int[] line = {2, 1, 0};
         for (int k = 0; k < 3; k++) Due.is("line behind swap " + k, x.told(10 + k), line[k]);
@@ -345,7 +319,7 @@ public final class PromisesTest {
     }
 
     private static void told() {
-        OverBacks x = three();
+        OverBacks x = Lines.three();
         x.turn();
         x.turn();
         int[] due = {2, 4, 39, 2, 60};
@@ -357,7 +331,7 @@ public final class PromisesTest {
     }
 
     private static void leap() {
-        OverBacks x = allKinds();
+        OverBacks x = Lines.allKinds();
         // Backs 9, 4, 9, 6, 2, 6, 0; v is number + 1.
         int[] overOne = {11, 0, 11, 11, 9, 17, 11};
         for (int p = 0; p < 7; p++) {
@@ -375,10 +349,10 @@ public final class PromisesTest {
         x.breath(0, 0);
         Due.is("breath 0", x.leap(0, 6, 0), 25);
         Due.is("breath of the other", x.leap(1, 0, 0), 16);
-        with(x, "gap 7;slow 20 p=0;slow 3 o=6;slow 50 p=1;risk 60 p=0;risk 39 o=6");
+        Lines.with(x, "gap 7;slow 20 p=0;slow 3 o=6;slow 50 p=1;risk 60 p=0;risk 39 o=6");
         Due.is("all that is slow", x.leap(0, 6, 0), 5 + 7 + 8 + 20 + 3 + 10);
         Due.is("all risk", x.leap(0, 6, 1), 99);
-        with(x, "risk 60 p=0;risk 41 o=6;risk 99 o=5&p=0");
+        Lines.with(x, "risk 60 p=0;risk 41 o=6;risk 99 o=5&p=0");
         Due.is("risk 101", x.leap(0, 6, 1), 100);
         Due.is("risk 159", x.leap(0, 5, 1), 100);
         Due.is("risk 60", x.leap(0, 1, 1), 60);
@@ -391,7 +365,7 @@ public final class PromisesTest {
     }
 
     private static void turn() {
-        OverBacks x = three();
+        OverBacks x = Lines.three();
         int[] took = {17, 22, 21, 17};
         int[][] lines = {{2, 0, 1}, {1, 2, 0}, {0, 1, 2}, {2, 0, 1}};
         for (int t = 0; t < 4; t++) {
@@ -400,19 +374,19 @@ public final class PromisesTest {
         }
         Due.is("time", x.told(2), 77);
         Due.is("yards", x.told(1), 8);
-        OverBacks alone = leapers(1);
+        OverBacks alone = Lines.leapers(1);
         Due.is("alone", alone.turn(), 0);
         Due.is("alone: turn", alone.told(0), 1);
         Due.is("alone: yards", alone.told(1), 2);
         Due.is("alone: breath", alone.of(0, 3), 9);
-        with(alone, "gap 9");
+        Lines.with(alone, "gap 9");
         alone.turn();
         Due.is("yards by another gap", alone.told(1), 11);
         lastTurn();
     }
 
     private static void lastTurn() {
-        OverBacks x = leapers(1);
+        OverBacks x = Lines.leapers(1);
         // More calls than an object is promised to answer: fewer cannot reach the last turn.
         for (int t = 0; t < 999; t++) x.turn();
         Due.is("turn is 999", x.told(0), 999);
@@ -420,7 +394,7 @@ public final class PromisesTest {
     }
 
     private static void breathOfTurns() {
-        OverBacks x = three();
+        OverBacks x = Lines.three();
         x.breath(2, 1);
         x.breath(0, 8);
         x.breath(1, 9);
@@ -432,12 +406,12 @@ public final class PromisesTest {
         x.turn();
         Due.is("breath: two leaps less", x.of(1, 3), 7);
         Due.is("breath: back again", x.of(2, 3), 1);
-        OverBacks y = with(three(), "slow 40 b<9;slow 50 b=8&o=0");
+        OverBacks y = Lines.with(Lines.three(), "slow 40 b<9;slow 50 b=8&o=0");
         Due.is("breath in a field, leap by leap", y.turn(), 17 + 90);
     }
 
     private static void on() {
-        OverBacks x = three();
+        OverBacks x = Lines.three();
         int[] time = {0, 17, 39, 60, 77};
         int[] last = {2, 1, 0, 2, 1};
         for (int n = 0; n < 5; n++) {
@@ -466,28 +440,28 @@ public final class PromisesTest {
         Due.is("on: nobody, yards", nobody.on(60, 1), 0);
         Due.is("on: nobody, last", nobody.on(60, 2), -5);
         Due.is("on: nobody, how often", nobody.on(60, 10), NONE);
-        Due.is("on: alone, how often", leapers(1).on(60, 10), 60);
+        Due.is("on: alone, how often", Lines.leapers(1).on(60, 10), 60);
     }
 
     private static void across() {
-        Due.is("across", three().across(0), 30);
-        Due.is("across time", three().across(1), 600);
-        Due.is("across 4", with(three(), "yards 4").across(0), 2);
-        Due.is("across 5", with(three(), "yards 5").across(0), 3);
-        Due.is("across 5 time", with(three(), "yards 5").across(1), 60);
-        Due.is("across 1", with(three(), "yards 1").across(0), 1);
-        Due.is("across 99 by 1", with(three(), "yards 99;gap 1").across(0), 99);
-        Due.is("across by gap 0", with(three(), "gap 0").across(0), -5);
-        Due.is("across by gap 0, time", with(three(), "gap 0").across(1), -5);
-        Due.is("across 0 by gap 0", with(three(), "gap 0;yards 0").across(0), 0);
+        Due.is("across", Lines.three().across(0), 30);
+        Due.is("across time", Lines.three().across(1), 600);
+        Due.is("across 4", Lines.with(Lines.three(), "yards 4").across(0), 2);
+        Due.is("across 5", Lines.with(Lines.three(), "yards 5").across(0), 3);
+        Due.is("across 5 time", Lines.with(Lines.three(), "yards 5").across(1), 60);
+        Due.is("across 1", Lines.with(Lines.three(), "yards 1").across(0), 1);
+        Due.is("across 99 by 1", Lines.with(Lines.three(), "yards 99;gap 1").across(0), 99);
+        Due.is("across by gap 0", Lines.with(Lines.three(), "gap 0").across(0), -5);
+        Due.is("across by gap 0, time", Lines.with(Lines.three(), "gap 0").across(1), -5);
+        Due.is("across 0 by gap 0", Lines.with(Lines.three(), "gap 0;yards 0").across(0), 0);
         Due.is("across nobody", new OverBacks().across(1), -5);
-        Due.is("across nobody, so now", with(new OverBacks(), "yards 0").across(0), 0);
-        Due.is("across nobody, so now, time", with(new OverBacks(), "yards 0").across(1), 0);
-        OverBacks x = with(three(), "yards 2");
+        Due.is("across nobody, so now", Lines.with(new OverBacks(), "yards 0").across(0), 0);
+        Due.is("across nobody, so now, time", Lines.with(new OverBacks(), "yards 0").across(1), 0);
+        OverBacks x = Lines.with(Lines.three(), "yards 2");
         x.turn();
         Due.is("across already", x.across(0), 0);
         Due.is("across already, time", x.across(1), 17);
-        with(x, "yards 6");
+        Lines.with(x, "yards 6");
         Due.is("across from now", x.across(0), 2);
         Due.is("across from now, time", x.across(1), 60);
         Due.is("across 2", x.across(2), NONE);
@@ -496,15 +470,15 @@ public final class PromisesTest {
     }
 
     private static void gap() {
-        Due.is("gap", three().gap(0), 9);
-        Due.is("gap time", three().gap(1), 235);
-        Due.is("gap of 8 yards", with(three(), "yards 8").gap(0), 8);
-        Due.is("gap of 8 yards, time", with(three(), "yards 8;gap 0").gap(1), 29);
-        Due.is("gap alone: the least", leapers(1).gap(0), 1);
-        Due.is("gap alone: time", leapers(1).gap(1), 0);
+        Due.is("gap", Lines.three().gap(0), 9);
+        Due.is("gap time", Lines.three().gap(1), 235);
+        Due.is("gap of 8 yards", Lines.with(Lines.three(), "yards 8").gap(0), 8);
+        Due.is("gap of 8 yards, time", Lines.with(Lines.three(), "yards 8;gap 0").gap(1), 29);
+        Due.is("gap alone: the least", Lines.leapers(1).gap(0), 1);
+        Due.is("gap alone: time", Lines.leapers(1).gap(1), 0);
         Due.is("gap nobody", new OverBacks().gap(1), -5);
-        Due.is("gap nobody, so now", with(new OverBacks(), "yards 0").gap(0), 1);
-        OverBacks x = with(three(), "yards 2");
+        Due.is("gap nobody, so now", Lines.with(new OverBacks(), "yards 0").gap(0), 1);
+        OverBacks x = Lines.with(Lines.three(), "yards 2");
         x.turn();
         Due.is("gap already", x.gap(0), 1);
         Due.is("gap already, time", x.gap(1), 17);
@@ -519,11 +493,11 @@ public final class PromisesTest {
         x.person(4, 0, 0);
         x.person(4, 0, 0);
         x.person(0, 0, 0);
-        return with(x, "yards 2");
+        return Lines.with(x, "yards 2");
     }
 
     private static void change() {
-        OverBacks x = with(three(), "yards 2");
+        OverBacks x = Lines.with(Lines.three(), "yards 2");
         Due.is("change: none is less", x.change(), -5);
         x.swap(0, 2);
         Due.is("change", x.change(), 2);
@@ -531,11 +505,11 @@ public final class PromisesTest {
         x.swap(0, 1);
         Due.is("change of 1 and 2", x.change(), 12);
         Due.is("change: the first of several", twoQuick().change(), 2);
-        Due.is("change: never across", with(three(), "gap 0").change(), -5);
+        Due.is("change: never across", Lines.with(Lines.three(), "gap 0").change(), -5);
         Due.is("change: nobody", new OverBacks().change(), -5);
-        Due.is("change: alone", leapers(1).change(), -5);
-        Due.is("change: all alike", leapers(7).change(), -5);
-        with(x, "yards 0");
+        Due.is("change: alone", Lines.leapers(1).change(), -5);
+        Due.is("change: all alike", Lines.leapers(7).change(), -5);
+        Lines.with(x, "yards 0");
         Due.is("change: already", x.change(), -5);
     }
 
@@ -548,19 +522,19 @@ public final class PromisesTest {
         Due.is("order changes nothing", x.told(12), 2);
         x.swap(0, 1);
         Due.is("order: from all orders", x.order(0), 0);
-        Due.is("order: never across", with(leapers(5), "gap 0").order(-1), -5);
-        Due.is("order: never across, k", with(leapers(5), "gap 0").order(0), -5);
-        Due.is("order: five alike", leapers(5).order(4), 4);
-        Due.is("order: six", leapers(6).order(-1), -9);
-        Due.is("order: six, k", leapers(6).order(4), -9);
-        Due.is("order: six, no such k", leapers(6).order(5), NONE);
+        Due.is("order: never across", Lines.with(Lines.leapers(5), "gap 0").order(-1), -5);
+        Due.is("order: never across, k", Lines.with(Lines.leapers(5), "gap 0").order(0), -5);
+        Due.is("order: five alike", Lines.leapers(5).order(4), 4);
+        Due.is("order: six", Lines.leapers(6).order(-1), -9);
+        Due.is("order: six, k", Lines.leapers(6).order(4), -9);
+        Due.is("order: six, no such k", Lines.leapers(6).order(5), NONE);
         Due.is("order: nobody", new OverBacks().order(-1), -5);
-        Due.is("order: nobody, so now", with(new OverBacks(), "yards 0").order(-1), 0);
-        Due.is("order: nobody, so now, k", with(new OverBacks(), "yards 0").order(0), -5);
+        Due.is("order: nobody, so now", Lines.with(new OverBacks(), "yards 0").order(-1), 0);
+        Due.is("order: nobody, so now, k", Lines.with(new OverBacks(), "yards 0").order(0), -5);
         orderOfTold();
-        OverBacks five = leapers(4);
+        OverBacks five = Lines.leapers(4);
         five.person(4, 0, 0);
-        with(five, "yards 4;slow 9 p=0;slow 9 p=1;slow 5 p=2");
+        Lines.with(five, "yards 4;slow 9 p=0;slow 9 p=1;slow 5 p=2");
         // First 4 leaps for 20 (5 each), then 3 for 28; all others are slower.
         int[] best = {48, 0, 1, 2, 3, 4};
         for (int k = -1; k < 5; k++) Due.is("order of five " + k, five.order(k), best[k + 1]);
@@ -573,7 +547,7 @@ public final class PromisesTest {
             x.person(6, 9, 0);
             x.row(p, p, 9);
         }
-        with(x, "yards 6");
+        Lines.with(x, "yards 6");
         int[] three = {42, 2, 1, 0, -5, -5};
         for (int k = -1; k < 5; k++) Due.is("order of three told " + k, x.order(k), three[k + 1]);
         x.person(0, 0, 0);
@@ -583,7 +557,7 @@ public final class PromisesTest {
     }
 
     private static void without() {
-        OverBacks x = three();
+        OverBacks x = Lines.three();
         int[] due = {-315, -300, -285};
         for (int p = 0; p < 3; p++) Due.is("without " + p, x.without(p), due[p]);
         Due.is("without 3", x.without(3), -10001);
@@ -593,13 +567,13 @@ public final class PromisesTest {
         more.person(0, 0, 0);
         more.person(5, 9, 0);
         more.person(4, 0, 0);
-        with(more, "yards 2");
+        Lines.with(more, "yards 2");
         Due.is("without: more", more.without(2), 4);
-        with(more, "yards 2;slow 30 p=2;slow 7 o=1");
+        Lines.with(more, "yards 2;slow 30 p=2;slow 7 o=1");
         Due.is("without: the others keep their numbers", more.without(0), -35);
-        Due.is("without: never", with(three(), "gap 0").without(0), -10005);
-        Due.is("without: alone", leapers(1).without(0), -10005);
-        Due.is("without: alone, so now", with(leapers(1), "yards 0").without(0), 0);
+        Due.is("without: never", Lines.with(Lines.three(), "gap 0").without(0), -10005);
+        Due.is("without: alone", Lines.leapers(1).without(0), -10005);
+        Due.is("without: alone, so now", Lines.with(Lines.leapers(1), "yards 0").without(0), 0);
     }
 
     private static void breathless(OverBacks x, int which, int who) {
@@ -608,9 +582,9 @@ public final class PromisesTest {
     }
 
     private static void breathless() {
-        breathless(three(), -5, -5);
+        breathless(Lines.three(), -5, -5);
         breathless(new OverBacks(), -5, -5);
-        OverBacks x = three();
+        OverBacks x = Lines.three();
         x.breath(2, 2);
         breathless(x, 1, 2);
         x.breath(2, 3);
@@ -622,34 +596,34 @@ public final class PromisesTest {
         Due.is("breathless changes nothing", x.told(0), 0);
         Due.is("breathless 2", x.breathless(2), NONE);
         Due.is("breathless -1", x.breathless(-1), NONE);
-        OverBacks alone = leapers(1);
+        OverBacks alone = Lines.leapers(1);
         alone.breath(0, 0);
         breathless(alone, 1, 0);
     }
 
     private static void two() {
         Due.is("two: nobody", new OverBacks().two(), STATE);
-        Due.is("two: alone", leapers(1).two(), STATE);
-        Due.is("two of two", leapers(2).two(), 14);
-        Due.is("two of three", three().two(), 39);
-        Due.is("two of four", leapers(4).two(), 35);
-        OverBacks quick = leapers(2);
+        Due.is("two: alone", Lines.leapers(1).two(), STATE);
+        Due.is("two of two", Lines.leapers(2).two(), 14);
+        Due.is("two of three", Lines.three().two(), 39);
+        Due.is("two of four", Lines.leapers(4).two(), 35);
+        OverBacks quick = Lines.leapers(2);
         quick.person(4, 0, 0);
         quick.person(0, 0, 0);
         // From 14 over 1 till 19, from 21 over 0 till 26, over 3 till 31.
         Due.is("two: a quick one waits", quick.two(), 31);
-        OverBacks slow = leapers(2);
+        OverBacks slow = Lines.leapers(2);
         slow.person(5, 9, 0);
         slow.person(0, 0, 0);
         // 3 over 2 till 9, over 1 till 16, over 0 till 23; 2 from 16 on by 16 each.
         Due.is("two: a heavy one", slow.two(), 64);
-        OverBacks x = three();
+        OverBacks x = Lines.three();
         x.breath(2, 1);
         Due.is("two: breath of the last", x.two(), 49);
         x.breath(1, 1);
         Due.is("two: breath of both", x.two(), 59);
         Due.is("two changes nothing", x.of(2, 3) + x.of(1, 3), 2);
-        Due.is("two: a field", with(three(), "slow 10 p=2&o=0;slow 3 p=1&o=2").two(), 52);
+        Due.is("two: a field", Lines.with(Lines.three(), "slow 10 p=2&o=0;slow 3 p=1&o=2").two(), 52);
     }
 
     private static void took(OverBacks x, int bits, int... took) {
@@ -659,7 +633,7 @@ public final class PromisesTest {
     }
 
     private static void gave() {
-        OverBacks x = three();
+        OverBacks x = Lines.three();
         Due.is("took -2", x.took(-2), BAD);
         Due.is("took 10000", x.took(10000), BAD);
         for (int n = 1; n <= 6; n++) Due.is("took " + n, x.took(n == 1 ? 9999 : 0), n);
@@ -685,7 +659,7 @@ public final class PromisesTest {
         afraid.person(0, 0, 9);
         afraid.person(2, 0, 3);
         afraid.person(3, 4, 0);
-        with(afraid, "slow 20 h=0");
+        Lines.with(afraid, "slow 20 h=0");
         // Over 1: 8 + 2 + 5, over 0: 8 + 2 + 9; with a flat back 5 + 2 + 20.
         took(afraid, 1, 15 + 27);
         took(afraid, 2, 27 + 19);
@@ -699,22 +673,22 @@ public final class PromisesTest {
 
     private static void odds() {
         odds(new OverBacks(), 1, 1);
-        odds(with(leapers(1), "risk 50 p=0"), 1, 1);
-        odds(three(), 1, 1);
-        odds(with(three(), "risk 50 o=0;risk 20 o=1"), 2, 5);
-        odds(with(three(), "risk 10 b<9"), 9, 10);
-        odds(with(three(), "risk 99 p=2;risk 9 o=0"), 0, 1);
-        odds(with(three(), "risk 33 p=2;risk 99 p=1"), 4489, 10000);
-        odds(with(leapers(7), "risk 1 p=6"), 941480149401L, 1000000000000L);
-        Due.is("odds 2", three().odds(2), Long.MIN_VALUE);
-        Due.is("odds -1", three().odds(-1), Long.MIN_VALUE);
-        OverBacks x = with(three(), "risk 10 b<9");
+        odds(Lines.with(Lines.leapers(1), "risk 50 p=0"), 1, 1);
+        odds(Lines.three(), 1, 1);
+        odds(Lines.with(Lines.three(), "risk 50 o=0;risk 20 o=1"), 2, 5);
+        odds(Lines.with(Lines.three(), "risk 10 b<9"), 9, 10);
+        odds(Lines.with(Lines.three(), "risk 99 p=2;risk 9 o=0"), 0, 1);
+        odds(Lines.with(Lines.three(), "risk 33 p=2;risk 99 p=1"), 4489, 10000);
+        odds(Lines.with(Lines.leapers(7), "risk 1 p=6"), 941480149401L, 1000000000000L);
+        Due.is("odds 2", Lines.three().odds(2), Long.MIN_VALUE);
+        Due.is("odds -1", Lines.three().odds(-1), Long.MIN_VALUE);
+        OverBacks x = Lines.with(Lines.three(), "risk 10 b<9");
         x.odds(0);
         Due.is("odds change nothing", x.of(2, 3), 9);
     }
 
     private static void mean() {
-        OverBacks x = three();
+        OverBacks x = Lines.three();
         Due.is("mean above", x.mean(0), 17);
         Due.is("mean below", x.mean(1), 2);
         x.turn();
@@ -724,12 +698,12 @@ public final class PromisesTest {
         Due.is("mean 2", x.mean(2), Long.MIN_VALUE);
         Due.is("mean -1", x.mean(-1), Long.MIN_VALUE);
         Due.is("mean: nobody", new OverBacks().mean(0), Long.MIN_VALUE);
-        Due.is("mean: alone", leapers(1).mean(1), Long.MIN_VALUE);
-        Due.is("mean of two", leapers(2).mean(0), 7);
+        Due.is("mean: alone", Lines.leapers(1).mean(1), Long.MIN_VALUE);
+        Due.is("mean of two", Lines.leapers(2).mean(0), 7);
     }
 
     private static void book() {
-        OverBacks x = three();
+        OverBacks x = Lines.three();
         Due.is("looked: no rows", x.looked(), -5);
         Due.is("book -2", x.book(-2, 0), BAD);
         Due.is("book 61", x.book(61, 0), BAD);
@@ -771,7 +745,7 @@ public final class PromisesTest {
     }
 
     private static void acts() {
-        OverBacks x = allKinds();
+        OverBacks x = Lines.allKinds();
         act(x, 0, 0, 5, 1);
         act(x, 0, 1, 4, 2, 1);
         act(x, 0, 2, 8, 3, 2, 1);
@@ -801,12 +775,12 @@ public final class PromisesTest {
         act(x, -1, 0, 0);
         Due.is("wraps", x.act(1, 0, Integer.MAX_VALUE), Integer.MAX_VALUE * 3 + 1);
         Due.is("wraps below", x.act(4, 2, Integer.MIN_VALUE), ((Integer.MIN_VALUE - 1) * 3 + 4 - 5) * 2 + 10);
-        OverBacks few = three();
+        OverBacks few = Lines.three();
         act(few, 3, 0, 0);
     }
 
     private static void as() {
-        OverBacks x = allKinds();
+        OverBacks x = Lines.allKinds();
         boolean[][] under = new boolean[7][7];
         for (int kind = 0; kind < 7; kind++) {
             under[kind][0] = true;
@@ -825,10 +799,10 @@ public final class PromisesTest {
     }
 
     private static void image() {
-        OverBacks x = three();
+        OverBacks x = Lines.three();
         x.person(6, 0, 0);
         x.row(3, 1, 4);
-        with(x, "gap 4;slow 9 p=1");
+        Lines.with(x, "gap 4;slow 9 p=1");
         x.feed('g');
         x.took(5);
         x.breath(0, 5);
@@ -841,7 +815,7 @@ public final class PromisesTest {
         x.person(0, 0, 0);
         x.row(3, 1, 9);
         x.swap(0, 1);
-        with(x, "ap 3;yards 4");
+        Lines.with(x, "ap 3;yards 4");
         Due.field(x, "gap 9");
         x.feed('p');
         x.took(6);
@@ -890,7 +864,7 @@ public final class PromisesTest {
     }
 
     private static void count() {
-        OverBacks x = three();
+        OverBacks x = Lines.three();
         Due.field(x, "gap 1");
         Due.field(x, "gap 2");
         x.took(1);
