@@ -193,15 +193,13 @@ public final class FieldEdgesTest {
         String subjects = "pokhb";
         int[] so = {3, 2, 4, 5, 6};
         for (int s = 0; s < 5; s++) {
-            for (int n = so[s] - 1; n <= so[s] + 1; n++) {
+            for (int n = 0; n <= 12; n++) {
                 test(subjects.charAt(s) + "<" + n, so[s] < n);
                 test(subjects.charAt(s) + "=" + n, so[s] == n);
                 test(subjects.charAt(s) + ">" + n, so[s] > n);
             }
             test(subjects.charAt(s) + "<99", true);
             test(subjects.charAt(s) + ">99", false);
-            test(subjects.charAt(s) + ">0", true);
-            test(subjects.charAt(s) + "<0", false);
         }
         for (int bits = 0; bits < 8; bits++) {
             boolean a = (bits & 1) != 0, b = (bits & 2) != 0, c = (bits & 4) != 0;
