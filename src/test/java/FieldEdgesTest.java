@@ -13,6 +13,7 @@ public final class FieldEdgesTest {
         fieldLimits();
         fieldOpen();
         fieldTests();
+        fieldNumbers();
         fieldHolds();
         Due.end("FieldEdgesTest");
     }
@@ -212,6 +213,25 @@ public final class FieldEdgesTest {
             test("!(" + t[0] + "&" + t[1] + ")|" + t[2], !(a && b) || c);
             test("!(!" + t[0] + "|" + t[1] + ")&!!" + t[2], !(!a || b) && c);
         }
+    }
+
+    /** Each one and each other one, told by the number. */
+    private static void fieldNumbers() {
+        for (int n = 0; n <= 7; n++) {
+            for (int relation = 0; relation < 3; relation++) {
+                String behind = "<=>".substring(relation, relation + 1) + n;
+                OverBacks x = Lines.with(Lines.leapers(7), "slow 10 p" + behind + ";slow 20 o" + behind);
+                for (int p = 0; p < 7; p++) {
+                    int other = (p + 3) % 7;
+                    int due = 7 + (isSo(p, relation, n) ? 10 : 0) + (isSo(other, relation, n) ? 20 : 0);
+                    Due.is("3: " + p + " over " + other + ", " + behind, x.leap(p, other, 0), due);
+                }
+            }
+        }
+    }
+
+    private static boolean isSo(int seen, int relation, int n) {
+        return relation == 0 ? seen < n : relation == 1 ? seen == n : seen > n;
     }
 
     private static void test(String e, boolean so) {
